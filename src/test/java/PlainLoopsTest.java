@@ -1,3 +1,5 @@
+import java.util.Collections;
+
 /** Many bodies, run by LaneLoops and by PlainLoops: lanes must not be seen in any cell. */
 public final class PlainLoopsTest {
     private static final int BODIES = 60_000;
@@ -30,6 +32,10 @@ public final class PlainLoopsTest {
             String call = what + " run(" + low + ", " + high + ")";
             Check.due(call, lanes.run(low, high), plain.run(low, high));
             compareCells(call, lanes, plain);
+            int a = below(statements);
+            int b = below(statements);
+            Check.due(call + " then exchange", lanes.exchange(a, b), 0);
+            Collections.swap(plain.body, a, b);
         }
         compareOrder(what, lanes, plain);
     }

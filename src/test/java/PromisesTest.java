@@ -120,29 +120,32 @@ public final class PromisesTest {
     private static void promise4Exchange() {
         LaneLoops x = new LaneLoops();
         x.ramp(1, 50, 1);
-        x.statement(SET, Pack.arrays(0, 0, 0), Pack.shifts(0, 0, 0), 5);
-        x.statement(ADDC, Pack.arrays(0, 1, 2), Pack.shifts(0, 2, -1), 7);
-        x.statement(SET, Pack.arrays(2, 0, 0), Pack.shifts(0, 0, 0), 8);
-        x.run(4, 4);
-        Check.due("4: before", x.get(0, 4), 63);
+        x.statement(ADDC, Pack.arrays(0, 1, 2), Pack.shifts(-1, 2, 3), 7);
+        x.statement(MULC, Pack.arrays(2, 0, 1), Pack.shifts(1, -1, 0), 3);
+        x.statement(SET, Pack.arrays(1, 0, 0), Pack.shifts(-4, 0, 0), 8);
+        dueAfterRun("4: before", x, 4, 56 + 7, 3 * 63);
         Check.due("4: exchange", x.exchange(0, 1), 0);
-        x.run(4, 4);
-        Check.due("4: after", x.get(0, 4), 5);
-        Check.due("4: the other way", x.exchange(1, 0), 0);
-        x.run(4, 4);
-        Check.due("4: after both", x.get(0, 4), 63);
-        Check.due("4: with itself", x.exchange(2, 2), 0);
-        x.run(4, 4);
-        Check.due("4: after itself", x.get(2, 4), 8);
-        int[] missing = {-1, 3, 4, LEAST, MOST};
-        for (int number : missing) {
+        dueAfterRun("4: exchanged", x, 6, 58 + 7, 0);
+        Check.due("4: the order asked", x.mustPrecede(0, 1, 0), true);
+        Check.due("4: exchange back", x.exchange(1, 0), 0);
+        dueAfterRun("4: exchanged back", x, 8, 60 + 7, 3 * 67);
+        Check.due("4: with itself", x.exchange(1, 1), 0);
+        dueAfterRun("4: exchanged with itself", x, 10, 62 + 7, 3 * 69);
+        for (int number : new int[] {-1, 3, 4, LEAST, MOST}) {
             Check.due("4: first missing", x.exchange(number, 0), LaneLoops.BAD_OP);
             Check.due("4: second missing", x.exchange(0, number), LaneLoops.BAD_OP);
             Check.due("4: both missing", x.exchange(number, number), LaneLoops.BAD_OP);
         }
-        x.run(6, 6);
-        Check.due("4: a refusal changes nothing", x.get(0, 6), 65);
+        dueAfterRun("4: after refusals", x, 12, 64 + 7, 3 * 71);
         Check.due("4: size stays", x.size(), 3);
+    }
+
+    /** Runs the body of promise 4 for one index and looks at what its first two statements write. */
+    private static void dueAfterRun(String what, LaneLoops x, int index, int added, int multiplied) {
+        Check.due(what + ": run", x.run(index, index), 3);
+        Check.due(what + ": ADDC", x.get(0, index - 1), added);
+        Check.due(what + ": MULC", x.get(2, index + 1), multiplied);
+        Check.due(what + ": SET", x.get(1, index - 4), 8);
     }
 
     private static void promise5Set() {
