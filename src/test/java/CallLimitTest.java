@@ -72,7 +72,6 @@ public final class CallLimitTest {
     private static void termsReadersChangeNothing() {
         Check.sentence("Terms", "The calls below change nothing.");
         for (int size = 0; size <= 4; size++) {
-            int statements = size;
             unchangedBy("get", size, x -> x.get(2, 31));
             unchangedBy("get of no cell", size, x -> x.get(0, 32));
             unchangedBy("get of no array", size, x -> x.get(3, 0));
@@ -81,9 +80,18 @@ public final class CallLimitTest {
             unchangedBy("differ", size, x -> x.differ(0, 2));
             unchangedBy("differ of no array", size, x -> x.differ(0, 3));
             unchangedBy("size", size, LaneLoops::size);
-            unchangedBy("mustPrecede", size, x -> x.mustPrecede(0, statements - 1, 1) ? 1 : 0);
-            unchangedBy("mustPrecede of no statement", size, x -> x.mustPrecede(0, statements, 1) ? 1 : 0);
-            unchangedBy("mustPrecede at no distance", size, x -> x.mustPrecede(0, 0, 9) ? 1 : 0);
+            for (int a = -1; a <= 4; a++) {
+                for (int b = -1; b <= 4; b++) {
+                    unchangedByMustPrecede(size, a, b);
+                }
+            }
+        }
+    }
+
+    private static void unchangedByMustPrecede(int size, int a, int b) {
+        for (int distance : new int[] {-1, 0, 1, 8, 9}) {
+            String what = "mustPrecede(" + a + ", " + b + ", " + distance + ")";
+            unchangedBy(what, size, x -> x.mustPrecede(a, b, distance) ? 1 : 0);
         }
     }
 
@@ -91,6 +99,8 @@ public final class CallLimitTest {
         LaneLoops x = Twins.filled(size);
         int answer = call.applyAsInt(x);
         Check.due(what + " again", call.applyAsInt(x), answer);
+        // Asked an even number of times, an exchange would undo itself.
+        Check.due(what + " a third time", call.applyAsInt(x), answer);
         Twins.same(what + " with a body of " + size + ", and then", x, Twins.filled(size));
     }
 }
